@@ -439,11 +439,12 @@ public final class MossRings {
         private final int nodes;
         private final int[] told;
 
+        /** States and nodes are divisors all over the class, so none is ever 0. */
         Rule(int states, int width, int[] told) {
-            this.states = states;
+            this.states = Math.max(2, states);
             this.width = width;
-            this.words = power(states, width);
-            this.nodes = power(states, width - 1);
+            this.nodes = Math.max(1, power(this.states, width - 1));
+            this.words = nodes * this.states;
             this.told = Arrays.copyOf(told, words);
         }
 
@@ -702,7 +703,7 @@ public final class MossRings {
         /** Sets are met in the order of their shortest, then first rows, so the empty one is met by the first missed row. */
         boolean missesSome(Rule rule) {
             learn(rule);
-            whole = (1 << rule.nodes) - 1;
+            whole = (1 << rule.nodes) - 1 & SETS - 1;
             Arrays.fill(cameFrom, NONE);
             queue[0] = whole;
             cameFrom[whole] = whole;
@@ -772,7 +773,7 @@ public final class MossRings {
         }
 
         boolean losesNothing(Rule rule) {
-            fill(rule);
+            begin(rule);
             boolean changed = true;
             for (int pass = 0; pass <= alive.length && changed; pass++) {
                 changed = prune(rule);
@@ -787,8 +788,7 @@ public final class MossRings {
             return true;
         }
 
-        private void fill(Rule rule) {
-            Arrays.fill(alive, false);
+        private void begin(Rule rule) {
             for (int one = 0; one < rule.words; one++) {
                 for (int two = 0; two < rule.words; two++) {
                     setLife(one, two, rule.tells(one) == rule.tells(two));
