@@ -92,6 +92,19 @@ public final class PromiseTests {
         due("P3 now 7", x.count(1), 7);
         due("P3 8 of 7", x.end(8), false);
         due("P3 more behind", x.feed(0, 0, 0, 0, 0), 27);
+        x = withElementary(0, 110);
+        x.feed(0x000101ff, -1, -1, -1, -1);
+        x.end(3);
+        due("P3 what is behind the end counts no more", x.row(0), 1);
+        x.feed(0x000101ff, -1, -1, -1, -1);
+        x.end(3);
+        due("P3 nor in a ring", x.ring(0, 1), 3);
+        x.feed(0x000101ff, -1, -1, -1, -1);
+        x.end(3);
+        due("P3 nor for what is behind", x.behind(0), 5);
+        x.feed(0x0100ffff, -1, -1, -1, -1);
+        x.end(2);
+        due("P3 nor for names", x.rename(0, 1), true);
     }
 
     private static void rule() {
