@@ -278,12 +278,9 @@ public final class MossRings {
         if (rule == null || !isSlot(t) || n != rule.states || !isEachOnce(n)) {
             return false;
         }
-        for (int word = 0; word < rule.words; word++) {
-            int renamed = rule.renamed(word, tape);
-            int state = rule.tells(word);
-            if (renamed >= 0 && renamed < told.length && state >= 0 && state < n) {
-                told[renamed] = tape[state];
-            }
+        // a name of t stands for the state of s that lies at that place of the tape
+        for (int word = 0; word < rule.words && word < told.length; word++) {
+            told[word] = placeOnTape(rule.tells(rule.translated(word, tape)), n);
         }
         slots[t] = new Rule(rule.states, rule.width, told);
         return true;
@@ -361,6 +358,16 @@ public final class MossRings {
             }
         }
         return seen == (1 << n) - 1;
+    }
+
+    private int placeOnTape(int state, int n) {
+        int place = 0;
+        for (int i = 0; i < n && i < tape.length; i++) {
+            if (tape[i] == state) {
+                place = i;
+            }
+        }
+        return place;
     }
 
     private int fullSlots() {
@@ -495,7 +502,7 @@ public final class MossRings {
             return turned;
         }
 
-        int renamed(int word, int[] names) {
+        int translated(int word, int[] names) {
             int rest = word;
             int place = 1;
             int named = 0;

@@ -280,9 +280,13 @@ public final class PlainTests {
         }
         put(x, names);
         due("rename", x.rename(0, 2) ? 1 : 0, 1);
-        put(x, named(cells, names));
+        int[] places = new int[k];
+        for (int i = 0; i < k; i++) {
+            places[names[i]] = i;
+        }
+        put(x, cells);
         x.row(2);
-        dueOut("rename", x, named(row, names));
+        dueOut("rename", x, named(rowOf(k, r, told, named(cells, names)), places));
     }
 
     private static void joined(Random random, int k, int r, int[] told) {

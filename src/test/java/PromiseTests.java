@@ -546,12 +546,34 @@ public final class PromiseTests {
         due("P19 slot t", x.rename(0, 6), false);
         x.table(1);
         dueOut("P19 it stays", x, elementary(137));
-        // state 0 is called 1, 1 is called 2, 2 is called 0
-        x = withRule(0, 3, 1, 0, 0, 1);
-        put(x, 1, 2, 0);
-        due("P19 k 3", x.rename(0, 1), true);
+        renameMoreStates();
+    }
+
+    /** States 0, 1, 2 of the new rule are states 1, 2, 0 of the old one, and so on: two states can't tell which way. */
+    private static void renameMoreStates() {
+        dueNamed(3, 1, new int[] {1, 2, 0}, new int[] {0, 0, 0}, 2, 2, 2);
+        dueNamed(3, 1, new int[] {1, 2, 0}, new int[] {0, 0, 1}, 2, 0, 2);
+        dueNamed(3, 1, new int[] {2, 0, 1}, new int[] {0, 0, 1}, 2, 1, 1);
+        dueNamed(3, 2, new int[] {1, 2, 0}, new int[] {0, 1, 2, 2, 1, 0, 0, 0, 2}, 0, 2, 1, 2, 1, 2, 0, 1, 2);
+        dueNamed(4, 1, new int[] {1, 2, 3, 0}, new int[] {0, 0, 1, 3}, 3, 0, 2, 3);
+        dueNamed(4, 2, new int[] {1, 3, 0, 2},
+                new int[] {0, 1, 2, 3, 1, 2, 3, 0, 2, 3, 0, 1, 3, 3, 3, 0},
+                3, 2, 0, 1, 1, 2, 1, 1, 0, 1, 2, 3, 1, 0, 3, 2);
+    }
+
+    private static void dueNamed(int k, int r, int[] names, int[] told, int... named) {
+        String what = "P19 " + Arrays.toString(names) + Arrays.toString(told);
+        MossRings x = withRule(0, k, r, told);
+        put(x, names);
+        due(what, x.rename(0, 1), true);
         x.table(1);
-        dueOut("P19 k 3", x, 2, 1, 1);
+        dueOut(what, x, named);
+        x.table(0);
+        dueOut(what + " the other one stays", x, told);
+        put(x, names);
+        due(what, x.rename(0, 0), true);
+        x.table(0);
+        dueOut(what + " in its own slot", x, named);
     }
 
     private static void trim() {
