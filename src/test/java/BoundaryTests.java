@@ -131,6 +131,9 @@ public final class BoundaryTests {
         x.feed(0x02020000, 0, 0, 0, 0);
         x.end(4);
         dueTape("P3 what comes is behind the first", x, 3, 2, 2, 0);
+        x = bench(3, 1, 2, 255);
+        x.end(3);
+        dueTape("P3 a byte that was cut off is no cell", x, 3, 1, 2);
     }
 
     // ---- slots, for every call that takes one
@@ -230,6 +233,12 @@ public final class BoundaryTests {
                 } else {
                     spent("P4 k " + k + " r " + r, 0, tape, x -> told(x.rule(0, states, width)));
                 }
+            }
+        }
+        for (int k : new int[] {1, 0, -1}) {
+            for (int r = 0; r <= 4; r++) {
+                int width = r;
+                spent("P4 no states, no bytes", 0, new int[0], x -> told(x.rule(0, k, width)));
             }
         }
         for (int far : new int[] {LEAST, GREATEST, 256 + 2, 65536 + 2}) {
@@ -593,6 +602,21 @@ public final class BoundaryTests {
             dueAll("P15 most cells, once round", k, most, after(k), 0, power(k, most), power(k, most) / k, 0, k);
         }
         dueAll("P15 the greatest height", 4, 6, new int[] {0, 0, 1, 2}, 4096 - 729, 1, 1, 3, 1);
+        allRound();
+    }
+
+    /** T "round as often as need be": rings of one cell and of two, of which a rule takes the cell r - 1 places on. */
+    private static void allRound() {
+        for (int k = 2; k <= 4; k++) {
+            for (int r = 1; r <= WIDTHS[k]; r++) {
+                int[] last = ofCell(k, r, r - 1);
+                boolean turns = r % 2 == 0;
+                int rings = k * k;
+                int rounds = turns ? (rings + k) / 2 : rings;
+                dueAllWith("P15 one cell, width " + r, k, r, 1, last, 0, k, k, 0, 1);
+                dueAllWith("P15 two cells, width " + r, k, r, 2, last, 0, rings, rounds, 0, turns ? 2 : 1);
+            }
+        }
     }
 
     // ---- promise 16: keeps
@@ -1008,10 +1032,14 @@ public final class BoundaryTests {
     }
 
     private static void dueAll(String what, int k, int n, int[] table, int... want) {
+        dueAllWith(what, k, 1, n, table, want);
+    }
+
+    private static void dueAllWith(String what, int k, int r, int n, int[] table, int... want) {
         for (int i = 0; i < want.length; i++) {
             int asked = i;
             String named = what + " n " + n + " what " + i;
-            unchangedWith(k, 1, table, named, want[i], new int[] {1}, x -> x.all(0, n, asked));
+            unchangedWith(k, r, table, named, want[i], new int[] {1}, x -> x.all(0, n, asked));
         }
     }
 

@@ -33,6 +33,7 @@ public final class PlainTests {
             }
         }
         longTrails(random);
+        oldAndNew(random);
         allOfWidthFour();
         if (wrong != 0) {
             System.out.println(wrong + " answers are not as due");
@@ -454,6 +455,59 @@ public final class PlainTests {
         put(x, cells);
         due("long height", x.height(0), want == null ? -1 : want[0]);
         due("long round", x.round(), want == null ? 0 : want[1]);
+    }
+
+    /** What an object was asked before changes no answer: an old one and a new one are asked the same. */
+    private static void oldAndNew(Random random) {
+        for (int i = 0; i < 300 && wrong < 20; i++) {
+            MossRings old = new MossRings();
+            for (int asked = 0; asked < 4; asked++) {
+                int k = 2 + random.nextInt(3);
+                int r = 1 + random.nextInt(WIDTHS[k]);
+                int[] told = randomTable(random, k, r);
+                int[] cells = randomCells(random, k, 1 + random.nextInt(6));
+                String young = askAll(withRule(k, r, told), cells, k);
+                put(old, told);
+                due("rule", old.rule(0, k, r) ? 1 : 0, 1);
+                String got = askAll(old, cells, k);
+                if (!got.equals(young)) {
+                    wrong++;
+                    System.out.println("an old object answered " + got + ", a new one " + young);
+                }
+            }
+        }
+    }
+
+    /** Some hundred calls at most, so that four times are fewer than an object may be asked. */
+    private static String askAll(MossRings x, int[] cells, int k) {
+        StringBuilder answers = new StringBuilder("about " + x.about(0, 2) + x.about(0, 3));
+        int missed = x.missed(0);
+        answers.append(" missed ").append(missed).append(missed > 0 ? Arrays.toString(out(x)) : "");
+        put(x, cells);
+        long rows = x.behind(0);
+        answers.append(" rows ").append(rows).append(rows > 0 ? Arrays.toString(out(x)) : "");
+        put(x, cells);
+        long rings = x.ringsBehind(0);
+        answers.append(" rings ").append(rings).append(rings > 0 ? Arrays.toString(out(x)) : "");
+        put(x, cells);
+        answers.append(" height ").append(x.height(0)).append(" round ").append(x.round());
+        for (int n = 3; n >= 1; n--) {
+            for (int what = 0; what < 5; what++) {
+                answers.append(what == 0 ? " all " : ",").append(x.all(0, n, what));
+            }
+        }
+        put(x, digits(2, 1, k));
+        answers.append(" keeps ").append(x.keeps(0));
+        int back = x.back(0, 1);
+        answers.append(" back ").append(back).append(back > 0 ? tableOf(x) : "");
+        int joined = x.join(0, 0, 1);
+        answers.append(" join ").append(joined).append(joined > 0 ? tableOf(x) : "");
+        return answers.append(" trim ").append(x.trim(0, 1)).append(tableOf(x)).toString();
+    }
+
+    private static String tableOf(MossRings x) {
+        x.table(1);
+        return Arrays.toString(out(x));
     }
 
     /** Of the rules with two states and width 4 it is long known that 582 are full and 16 lose nothing. */

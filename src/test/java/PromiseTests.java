@@ -63,8 +63,6 @@ public final class PromiseTests {
         due("P2 none came", x.count(1), 81);
         due("P2 end", x.end(80), true);
         due("P2 100 again", x.feed(0, 0, 0, 0, 0x01), 100);
-        put(x, 1, 0, 1);
-        x.rule(1, 2, 1);
         x = withRule(0, 2, 1, 0, 1);
         x.feed(0x01000101, 0x01000000, 0x00000001, 0, 0x00000001);
         due("P2 highest first", x.ring(0, 0), 20);
@@ -461,7 +459,7 @@ public final class PromiseTests {
         due("P16 no byte", x.keeps(0), -1);
         put(x, 7, 7);
         due("P16 no rule", x.keeps(1), -1);
-        // 00 01 02 10 11 12 20 21 22: of a 2 ahead of a 0 come two 1s, told by the sums 0, 1, 2 alone
+        // 0 and 2 change places, so their weights alone must be alike
         x = withRule(0, 3, 1, 2, 1, 0);
         put(x, 1, 0xff, 1);
         due("P16 signs", x.keeps(0), 1);
